@@ -61,6 +61,7 @@ public final class ModelTest {
         for (int i = 0; i < crowd; i++) {
             addPilgrim();
         }
+        equip();
         while (calls.size() < CALLS && !differs) {
             int kind = chance.nextInt(100);
             if (kind < 14) {
@@ -87,6 +88,24 @@ public final class ModelTest {
         int e = chance.nextInt(8) == 0 ? any(9980, 9999) : any(0, 60);
         due("pilgrim(" + a + ", " + b + ", " + c + ", " + d + ", " + e + ")", real.pilgrim(a, b, c, d, e),
             model.pilgrim(a, b, c, d, e));
+    }
+
+    /** Some start with PARASOLS, HATS and QUARRELS, which single calls by chance seldom bring together. */
+    private void equip() {
+        int all = model.m.all.size();
+        int many = chance.nextInt(4);
+        for (int p = 0; p < all; p++) {
+            if (chance.nextInt(6) < many) {
+                due("give(" + p + ", 1, 1)", real.give(p, 1, 1), model.give(p, 1, 1));
+            }
+            if (chance.nextInt(12) < many) {
+                due("give(" + p + ", 2, 1)", real.give(p, 2, 1), model.give(p, 2, 1));
+            }
+            int q = chance.nextInt(all);
+            if (chance.nextInt(3) < many) {
+                due("quarrel(" + p + ", " + q + ", true)", real.quarrel(p, q, true), model.quarrel(p, q, true));
+            }
+        }
     }
 
     private void tell() {

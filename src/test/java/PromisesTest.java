@@ -295,6 +295,13 @@ public final class PromisesTest {
         fault("Stay;", 1, 0);
         fault("stayX;", 1, 0);
         fault("stay2;", 1, 4);
+        fault("stayz;", 1, 0);
+        fault("stayA;", 1, 0);
+        fault("stayZ;", 1, 0);
+        fault("stay@;", 1, 4);
+        fault("stay[;", 1, 4);
+        fault("stay`;", 1, 4);
+        fault("stay{;", 1, 4);
         fault("when 1=1;", 1, 0);
         fault("stay stay;", 1, 5);
         fault("stay when;", 1, 9);
@@ -509,6 +516,15 @@ public final class PromisesTest {
         y.hours(1);
         due("no such place: he stays", y.of(0, 0), 12);
         due("and fights", y.look(3), 4);
+        SevenToAShadow z = new SevenToAShadow();
+        z.pilgrim(12, 0, 1, 0, 0);
+        z.pilgrim(23, 0, 1, 0, 0);
+        z.pilgrim(6, 0, 1, 0, 0);
+        z.quarrel(0, 2, true);
+        z.quarrel(1, 2, true);
+        rules(z, "flee when pilgrim = 2;");
+        z.hours(1);
+        due("the one who is told last is no less a foe for it", z.of(2, 0), 0);
     }
 
     private static void buy() {
@@ -768,6 +784,16 @@ public final class PromisesTest {
         x.hour(0, 4, 10);
         due("HEAT as told, whatever the CLOUDS", x.walk(0, 0, 10 + 1), 10);
         due("nobody went", x.of(0, 0), 0);
+        x.give(3, 1, 1);
+        x.give(0, 1, 1);
+        due("with three bearers: 0's own", x.walk(4, 4, 10), 0);
+        due("3's own", x.walk(4, 4, 13), 3);
+        due("the first free of bearers", x.walk(4, 4, 11), 1);
+        due("3's shade comes to place 0, but a bearer is there; 1 and 2 have it", x.walk(0, 0, 11), 1);
+        due("no suns there", x.walk(0, 0, 0), 0);
+        x.give(3, 0, 1);
+        due("0, 1 and 13 are bearers' places", x.walk(4, 4, 11), 2);
+        due("10 is in the shade of 13", x.walk(0, 0, 11), 10);
     }
 
     private static void fewest() {
