@@ -24,6 +24,7 @@ public final class HourBoundsTest {
         buyFromWhom();
         buyBurnLess();
         buyLeastBurn();
+        buyAmongTen();
         buyChanges();
         buyNothing();
         burns();
@@ -406,6 +407,28 @@ public final class HourBoundsTest {
         t.due("5, 5, 5", seller(5, 5, 5), NONE);
         t.due("6, 7, 8", seller(6, 7, 8), NONE);
         t.due("0, 0, 0", seller(0, 0, 0), 2);
+    }
+
+    /** Any of ten may sell to any other: the bearer stands at 14, the seller at 10, the buyer in the sun. */
+    private static void buyAmongTen() {
+        t.sentence("of all who are SHADED: PILGRIMS 0 .. 9");
+        for (int seller = 0; seller < 10; seller++) {
+            int buyer = (seller + 1) % 10;
+            int bearer = (seller + 2) % 10;
+            SevenToAShadow x = new SevenToAShadow();
+            x.hour(1, 1, 0);
+            for (int p = 0; p < 10; p++) {
+                int place = p == seller ? 10 : p == bearer ? 14 : p < 5 ? p : p + 15;
+                x.pilgrim(place, 0, 1, p == buyer ? 1 : 0, 5);
+            }
+            x.hours(1);
+            x.give(bearer, 1, 1);
+            Checks.rules(x, "buy;");
+            x.hours(1);
+            t.due(buyer + " bought from " + seller, x.of(buyer, 0), 10);
+            t.due("SOLD", x.of(seller, 8), 1);
+            t.due("WATER", x.of(seller, 4), 10);
+        }
     }
 
     private static void buyChanges() {

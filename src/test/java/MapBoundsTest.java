@@ -154,13 +154,13 @@ public final class MapBoundsTest {
     private static void hoursAtFirst() {
         t.sentence("HOURS 0 .. 11, with what they have at first");
         SevenToAShadow x = new SevenToAShadow();
-        int[] first = {x.look(10), x.look(11), x.look(12), x.look(13), x.look(14)};
-        int[] last = {x.look(65), x.look(66), x.look(67), x.look(68), x.look(69)};
-        int[] wantFirst = {2, 0, 1, 0, 0};
-        int[] wantLast = {6, 0, 1, 0, 0};
-        for (int k = 0; k < 5; k++) {
-            t.due("HOUR 0, " + k, first[k], wantFirst[k]);
-            t.due("HOUR 11, " + k, last[k], wantLast[k]);
+        int[] suns = {2, 2, 3, 3, 4, 4, 4, 4, 5, 5, 6, 6};
+        int[] altitudes = {0, 1, 2, 3, 4, 4, 4, 4, 3, 2, 1, 0};
+        for (int h = 0; h < 12; h++) {
+            int[] want = {suns[h], altitudes[h], altitudes[h] + 1, 0, 0};
+            for (int k = 0; k < 5; k++) {
+                t.due("HOUR " + h + ", " + k, x.look(10 + 5 * h + k), want[k]);
+            }
         }
         for (int h : Checks.around(0, 11)) {
             t.due("hour " + h, x.hour(h, 2, 7), Checks.in(h, 0, 11));

@@ -18,6 +18,7 @@ public final class PromiseBoundsTest {
         give();
         giveTwoValues();
         quarrel();
+        quarrelBothWays();
         feed();
         feedFull();
         feedHighestFirst();
@@ -259,6 +260,31 @@ public final class PromiseBoundsTest {
         x.quarrel(9, 0, false);
         x.hours(1);
         t.due("no more", x.look(3), 1);
+    }
+
+    private static void quarrelBothWays() {
+        t.sentence("Promise 7: Two unlike ones QUARREL or not, in whatever order they are told");
+        for (int told = 0; told < 2; told++) {
+            for (int ended = 0; ended < 2; ended++) {
+                for (int flees = 0; flees < 2; flees++) {
+                    SevenToAShadow x = new SevenToAShadow();
+                    x.pilgrim(12, 0, 1, 0, 0);
+                    x.pilgrim(13, 0, 1, 0, 0);
+                    int place = x.of(flees, 0);
+                    x.quarrel(told, 1 - told, true);
+                    x.hours(1);
+                    t.due("they fight", x.look(3), 1);
+                    Checks.rules(x, "flee when pilgrim = " + flees + ";");
+                    x.hours(1);
+                    t.due("he flees", x.of(flees, 0) != place, true);
+                    x.give(flees, 0, place);
+                    x.quarrel(ended, 1 - ended, false);
+                    x.hours(1);
+                    t.due("he flees no more", x.of(flees, 0), place);
+                    t.due("they fight no more", x.look(3), 1);
+                }
+            }
+        }
     }
 
     private static void feed() {

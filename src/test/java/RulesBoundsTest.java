@@ -28,6 +28,7 @@ public final class RulesBoundsTest {
         otherValues();
         firstLineThatIsSo();
         faultLeavesRules();
+        faultLeavesNothingOpen();
         t.finish();
     }
 
@@ -553,5 +554,29 @@ public final class RulesBoundsTest {
             x.hours(1);
             t.due("they are gone by", x.of(0, 0) != 12, true);
         }
+    }
+
+    private static void faultLeavesNothingOpen() {
+        t.sentence("FAULTS: what was open at one is not open in the next text");
+        String[] wrongs = {"stay when (((((((( 1=1", "stay when not .", "stay when 1+2*3<", "stay when 1=2 and 1=1 or",
+            "stay when 1=1 or 1=1 and (1=1 and 1+", "stay;stay;stay when (1=1) and", "buy;".repeat(17)};
+        for (String wrong : wrongs) {
+            SevenToAShadow x = two(12, 0, 0, 0);
+            t.due("text() of " + wrong, Checks.rules(x, wrong), NONE);
+            t.due("a line after " + wrong, flees(x, "1<2"), true);
+            t.due("no ) too many", Checks.rules(x, "stay when 1=1);"), NONE);
+            t.due("its place", x.fault(1), 13);
+            t.due("eight open", Checks.rules(x, "flee when " + "(".repeat(8) + "1=1" + ")".repeat(8) + ";"), 1);
+            t.due("eight not", Checks.rules(x, "flee when " + "not ".repeat(8) + "1=1;"), 1);
+            t.due("sixteen lines", Checks.rules(x, "stay when 1=2;".repeat(15) + "flee when 1<2;"), 16);
+            x.give(0, 0, 12);
+            x.hours(1);
+            t.due("they are gone by", x.of(0, 0) != 12, true);
+        }
+        SevenToAShadow x = two(12, 0, 0, 0);
+        for (int time = 0; time < 30; time++) {
+            t.due("time and again", Checks.rules(x, "stay when " + "1=1 or 1=1 and (".repeat(8) + "1+1*1<."), NONE);
+        }
+        t.due("a line after that", flees(x, "1=2 or 1=1 and (".repeat(8) + "1+1*2=3" + ")".repeat(8)), true);
     }
 }

@@ -9,6 +9,7 @@ public final class ThoughtBoundsTest {
         inThought();
         walkHours();
         walkMost();
+        walkGreatestOfTen();
         walkParasolsAlone();
         walkFreeOfBearers();
         walkBySkin();
@@ -27,17 +28,20 @@ public final class ThoughtBoundsTest {
         haltsLeast();
         thiefAnother();
         thiefNoneTold();
+        thiefOfTen();
         thiefJustSo();
         undoTwelve();
         undoNotUndoneYet();
         undoState();
         undoWhole();
+        undoOfTen();
         undoKeepsRulesAndTold();
         forgets();
         forgetsNot();
         forgottenGoesOn();
         imageNone();
         imageAsItWas();
+        imageOfWhatIsNotLookedAt();
         imageMoreThanOnce();
         imageTakenAnew();
         imageButTape();
@@ -98,6 +102,19 @@ public final class ThoughtBoundsTest {
         t.due("the sum", x.walk(0, 11, 1), 9720);
         for (int p = 0; p < 10; p++) {
             t.due("PLACES by number", x.walk(0, 11, 10 + p), p);
+        }
+    }
+
+    private static void walkGreatestOfTen() {
+        t.sentence("the greatest: of PILGRIMS 0 .. 9");
+        for (int most = 0; most < 10; most++) {
+            SevenToAShadow x = new SevenToAShadow();
+            for (int p = 0; p < 10; p++) {
+                x.pilgrim(p, 0, 1, p == most ? 3 : 1, 0);
+            }
+            t.due("the greatest is that of " + most, x.walk(4, 4, 0), 15);
+            t.due("the sum", x.walk(4, 4, 1), 60);
+            t.due("he is first", x.walk(4, 4, 10 + most), 0);
         }
     }
 
@@ -493,6 +510,21 @@ public final class ThoughtBoundsTest {
         t.due("none again", x.thief(0), 84);
     }
 
+    private static void thiefOfTen() {
+        t.sentence("BURNS that each had in a DAY: of PILGRIMS 0 .. 9");
+        for (int liar = 0; liar < 10; liar++) {
+            SevenToAShadow x = new SevenToAShadow();
+            for (int p = 0; p < 10; p++) {
+                x.pilgrim(p, 0, 1, 1, 0);
+                x.told(p, p == liar ? 41 : 40);
+            }
+            t.due(liar + " can't be so", x.thief(3), 0);
+            t.due("nor by a turning", x.thief(0), 0);
+            x.told(liar, 40);
+            t.due("all are so", x.thief(3), 1);
+        }
+    }
+
     private static void thiefJustSo() {
         t.sentence("they would be just so");
         SevenToAShadow x = new SevenToAShadow();
@@ -599,6 +631,33 @@ public final class ThoughtBoundsTest {
         t.due("lines", x.look(4), 1);
         t.due("no line", x.book(1, 0), NONE);
         t.due("NOW", x.look(1), 1);
+    }
+
+    private static void undoOfTen() {
+        t.sentence("the latest HOUR goes back: of PILGRIMS 0 .. 9, with their FIGHTS");
+        int[] places = {0, 1, 3, 4, 10, 11, 13, 14, 20, 21};
+        SevenToAShadow x = new SevenToAShadow();
+        for (int p = 0; p < 10; p++) {
+            x.pilgrim(places[p], 0, 1, p, 9);
+        }
+        for (int p = 0; p < 10; p += 2) {
+            x.quarrel(p, p + 1, true);
+        }
+        x.hours(1);
+        t.due("FIGHTS", x.look(3), 5);
+        x.hours(1);
+        t.due("FIGHTS", x.look(3), 10);
+        Checks.rules(x, "flee;");
+        x.hours(1);
+        t.due("they went", x.of(8, 0) != 20, true);
+        for (int hours = 2; hours >= 0; hours--) {
+            x.undo();
+            t.due("FIGHTS after " + hours, x.look(3), 5 * hours);
+            for (int p = 0; p < 10; p++) {
+                t.due("PLACE of " + p, x.of(p, 0), places[p]);
+                t.due("BURN of " + p, x.of(p, 7), hours == 2 ? 3 * p : hours * p);
+            }
+        }
     }
 
     private static void undoKeepsRulesAndTold() {
@@ -756,6 +815,36 @@ public final class ThoughtBoundsTest {
         twin.set(0, 3);
         twin.image(true);
         t.alike("going back", Checks.wayOfWorld(x), Checks.wayOfWorld(twin));
+    }
+
+    private static void imageOfWhatIsNotLookedAt() {
+        t.sentence("THE IMAGE: all that is: QUARRELS, FIGHTS, the lines of THE BOOK, what RULES say");
+        SevenToAShadow x = new SevenToAShadow();
+        x.pilgrim(12, 0, 1, 1, 0);
+        x.pilgrim(13, 0, 1, 2, 0);
+        x.quarrel(0, 1, true);
+        x.hours(2);
+        Checks.rules(x, "flee when pilgrim = 1 and hour = 2; stay;");
+        x.image(true);
+        x.undo();
+        x.undo();
+        x.quarrel(0, 1, false);
+        x.hour(0, 2, 9);
+        Checks.rules(x, "flee when pilgrim = 0 and hour = 9; stay;");
+        x.hours(2);
+        t.due("another line", x.book(0, 3), 9);
+        t.due("no FIGHTS", x.look(3), 0);
+        x.image(false);
+        int[][] lines = {{0, 0, 0, 1}, {1, 0, 0, 2}, {0, 0, 1, 2}, {1, 0, 1, 4}};
+        for (int i = 0; i < 4; i++) {
+            for (int what = 0; what < 4; what++) {
+                t.due("book(" + i + ", " + what + ")", x.book(i, what), lines[i][what]);
+            }
+        }
+        t.due("FIGHTS", x.look(3), 2);
+        x.hours(1);
+        t.due("1 flees by the line of then", x.of(1, 0) != 13, true);
+        t.due("0 stays", x.of(0, 0), 12);
     }
 
     private static void imageMoreThanOnce() {
