@@ -23,10 +23,12 @@ public final class RulesBoundsTest {
         intsWrap();
         towardsZero();
         bindings();
+        claimsTogether();
         deepest();
         valuesAtTheirEnds();
         otherValues();
         firstLineThatIsSo();
+        textAfterText();
         faultLeavesRules();
         faultLeavesNothingOpen();
         t.finish();
@@ -428,6 +430,23 @@ public final class RulesBoundsTest {
         so("1 > 2", false);
     }
 
+    private static void claimsTogether() {
+        t.sentence("A {or A}, C {and C}, not C: of whatever is so and is not so");
+        String[] claims = {"1<2", "2>1", "1=1", "2<1", "1>2", "1=2", "1<1", "1>1"};
+        for (int i = 0; i < claims.length; i++) {
+            so(claims[i], i < 3);
+            so("not " + claims[i], i >= 3);
+            so("not not " + claims[i], i < 3);
+            so("not(" + claims[i] + ")", i >= 3);
+            for (int k = 0; k < claims.length; k++) {
+                so(claims[i] + " and " + claims[k], i < 3 && k < 3);
+                so(claims[i] + " or " + claims[k], i < 3 || k < 3);
+                so("not " + claims[i] + " and " + claims[k], i >= 3 && k < 3);
+                so(claims[i] + " or not " + claims[k], i < 3 || k >= 3);
+            }
+        }
+    }
+
     /** As much as can wait at once: in each of eight ( an or and an and, inside a sum of products. */
     private static void deepest() {
         t.sentence("(at it) the 9th ( or not that is open: what waits at eight is not lost");
@@ -540,6 +559,26 @@ public final class RulesBoundsTest {
         t.due("sixteen lines", Checks.rules(x, "stay when 1=2;".repeat(15) + "flee when 1=1;"), 16);
         x.hours(1);
         t.due("the sixteenth", x.of(0, 0) != 12, true);
+    }
+
+    private static void textAfterText() {
+        t.sentence("The TAPE is RULES: nothing is left of those before");
+        String[] texts = {"", "flee;", "stay when 1=2;", "stay when 1=2;flee;", "stay when 1=2 and 1=2 or 1=2;",
+            "flee when not 1=1;", "stay;stay;flee when not 1=2;", "flee when (((1<2)));", "stay when 1=2;stay when not 1=1;",
+            "flee when 1=2", "flee when not (1=1 and"};
+        boolean[] goes = {false, true, false, true, false, false, false, true, false};
+        for (String first : texts) {
+            for (String second : texts) {
+                for (int i = 0; i < goes.length; i++) {
+                    SevenToAShadow x = two(12, 0, 0, 0);
+                    Checks.rules(x, first);
+                    Checks.rules(x, second);
+                    Checks.rules(x, texts[i]);
+                    x.hours(1);
+                    t.due("flees by " + texts[i] + " after " + first + " and " + second, x.of(0, 0) != 12, goes[i]);
+                }
+            }
+        }
     }
 
     private static void faultLeavesRules() {
