@@ -1,8 +1,14 @@
+import com.sun.source.tree.ArrayAccessTree;
 import com.sun.source.tree.AssertTree;
+import com.sun.source.tree.AssignmentTree;
+import com.sun.source.tree.BinaryTree;
 import com.sun.source.tree.BlockTree;
 import com.sun.source.tree.ClassTree;
 import com.sun.source.tree.CompilationUnitTree;
+import com.sun.source.tree.CompoundAssignmentTree;
+import com.sun.source.tree.ExpressionTree;
 import com.sun.source.tree.ImportTree;
+import com.sun.source.tree.InstanceOfTree;
 import com.sun.source.tree.LambdaExpressionTree;
 import com.sun.source.tree.MemberReferenceTree;
 import com.sun.source.tree.MethodInvocationTree;
@@ -14,6 +20,8 @@ import com.sun.source.tree.SynchronizedTree;
 import com.sun.source.tree.ThrowTree;
 import com.sun.source.tree.Tree;
 import com.sun.source.tree.TryTree;
+import com.sun.source.tree.TypeCastTree;
+import com.sun.source.tree.UnaryTree;
 import com.sun.source.tree.VariableTree;
 import com.sun.source.util.JavacTask;
 import com.sun.source.util.TreePath;
@@ -41,6 +49,9 @@ public final class LanguageTest extends TreePathScanner<Void, Void> {
     private static final Set<String> LIBRARY = Set.of("java.lang.Math.max", "java.lang.Math.min", "java.lang.Math.abs",
         "java.lang.Integer.bitCount", "java.lang.System.arraycopy", "java.util.Arrays.fill", "java.lang.String.length",
         "java.lang.String.charAt", "java.lang.String.indexOf");
+    /** What the class needs of the types that rule 3 leaves, beside its own classes. */
+    private static final Set<String> TYPES = Set.of("int", "boolean", "int[]", "byte[]", "String");
+    private static final Set<String> STATIC_TYPES = Set.of("int", "int[]", "String");
     private final Trees trees;
     private final CompilationUnitTree unit;
     private final Set<String> wrongs = new TreeSet<>();
@@ -192,7 +203,83 @@ public final class LanguageTest extends TreePathScanner<Void, Void> {
         if (isField && inFace() && !flags.getFlags().contains(Modifier.PRIVATE) && !t.getName().contentEquals("NONE")) {
             wrong("1: " + t.getName(), t);
         }
+        checkType(t, isField && flags.getFlags().contains(Modifier.STATIC));
         return super.visitVariable(t, v);
+    }
+
+    private void checkType(VariableTree t, boolean isStatic) {
+        String type = t.getType().toString();
+        if (isStatic && !STATIC_TYPES.contains(type)) {
+            wrong("5: a static field of type " + type, t);
+        }
+        if (!TYPES.contains(type) && !isOwnClass(t.getType())) {
+            wrong("3: the type " + type, t);
+        }
+    }
+
+    private boolean isOwnClass(Tree type) {
+        Element e = trees.getElement(new TreePath(getCurrentPath(), type));
+        return e != null && e.toString().startsWith("SevenToAShadow.");
+    }
+
+    private boolean isText(ExpressionTree t) {
+        var type = trees.getTypeMirror(new TreePath(getCurrentPath(), t));
+        return type != null && type.toString().equals("java.lang.String");
+    }
+
+    /** Rule 5: what a static array holds is never changed. */
+    private void checkChanged(ExpressionTree changed) {
+        if (changed instanceof ArrayAccessTree a) {
+            Element e = trees.getElement(new TreePath(new TreePath(getCurrentPath(), a), a.getExpression()));
+            if (e != null && e.getModifiers().contains(Modifier.STATIC)) {
+                wrong("5: " + e + " is changed", changed);
+            }
+        }
+    }
+
+    @Override
+    public Void visitAssignment(AssignmentTree t, Void v) {
+        checkChanged(t.getVariable());
+        return super.visitAssignment(t, v);
+    }
+
+    @Override
+    public Void visitCompoundAssignment(CompoundAssignmentTree t, Void v) {
+        checkChanged(t.getVariable());
+        if (isText(t.getVariable())) {
+            wrong("10: texts joined by +=", t);
+        }
+        return super.visitCompoundAssignment(t, v);
+    }
+
+    @Override
+    public Void visitUnary(UnaryTree t, Void v) {
+        if (t.getKind().name().endsWith("CREMENT")) {
+            checkChanged(t.getExpression());
+        }
+        return super.visitUnary(t, v);
+    }
+
+    @Override
+    public Void visitBinary(BinaryTree t, Void v) {
+        if (isText(t.getLeftOperand()) || isText(t.getRightOperand())) {
+            wrong(t.getKind() == Tree.Kind.PLUS ? "10: texts joined by +" : "6: texts compared by " + t.getKind(), t);
+        }
+        return super.visitBinary(t, v);
+    }
+
+    @Override
+    public Void visitTypeCast(TypeCastTree t, Void v) {
+        if (!Set.of("byte", "char").contains(t.getType().toString())) {
+            wrong("7: a cast to " + t.getType() + ", which nothing here needs", t);
+        }
+        return super.visitTypeCast(t, v);
+    }
+
+    @Override
+    public Void visitInstanceOf(InstanceOfTree t, Void v) {
+        wrong("6: instanceof, which nothing here needs", t);
+        return super.visitInstanceOf(t, v);
     }
 
     /** Everything is made by constructors and field initialisers: a run of calls takes no room. */
