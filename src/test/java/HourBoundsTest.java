@@ -1,3 +1,6 @@
+import java.util.ArrayList;
+import java.util.List;
+
 /** "Terms", ==== 2, an HOUR and an EVENING: who goes, buys, burns and fights at the bounds that are named. */
 public final class HourBoundsTest {
     private static final int NONE = Checks.NONE;
@@ -95,6 +98,45 @@ public final class HourBoundsTest {
         x.hours(1);
         t.due("the first goes: of 0, 5, 10 the least", x.of(0, 0), 0);
         t.due("so the second has none to flee from", x.of(1, 0), 7);
+        shadedAsAllStand();
+        sellersAsAllStand();
+    }
+
+    /** PILGRIM 0 bears a PARASOL and flees from 1, in HOUR 0 or 1, both by WAY 6. */
+    private static SevenToAShadow fleeing(int bearer, int foe, int other, int skin) {
+        SevenToAShadow x = new SevenToAShadow();
+        x.pilgrim(bearer, 0, 1, 0, 0);
+        x.pilgrim(foe, 0, 1, 0, 0);
+        x.pilgrim(other, 0, 1, skin, 9);
+        x.give(0, 1, 1);
+        x.quarrel(0, 1, true);
+        return x;
+    }
+
+    private static void shadedAsAllStand() {
+        SevenToAShadow gone = fleeing(12, 13, 10, 0);
+        Checks.rules(gone, "flee when pilgrim = 0; seek when pilgrim = 2 and shaded = 0;");
+        gone.hours(1);
+        t.due("the bearer goes from 12 to 6", gone.of(0, 0), 6);
+        t.due("so 10 is shaded no more, but 5", gone.of(2, 0), 5);
+        SevenToAShadow come = fleeing(7, 2, 10, 0);
+        come.pilgrim(24, 0, 1, 0, 0);
+        come.give(3, 1, 1);
+        Checks.rules(come, "flee when pilgrim = 0; seek when pilgrim = 2;");
+        come.hours(1);
+        t.due("the bearer goes from 7 to 11", come.of(0, 0), 11);
+        t.due("so 10 is shaded, and none goes from it to 20", come.of(2, 0), 10);
+    }
+
+    private static void sellersAsAllStand() {
+        for (int who = 0; who < 2; who++) {
+            SevenToAShadow x = fleeing(12, 13, 10, 0);
+            x.pilgrim(24, 0, 1, 1, 9);
+            x.hours(1);
+            Checks.rules(x, "flee when pilgrim = " + (who == 0 ? "0" : "9") + "; buy when pilgrim = 3;");
+            x.hours(1);
+            t.due("24 buys of 10, if the bearer is there", x.of(3, 0), who == 0 ? 24 : 10);
+        }
     }
 
     /** In HOUR 0 shade falls by WAY 6, x less; ALTITUDE is as told. */
@@ -248,6 +290,11 @@ public final class HourBoundsTest {
         SevenToAShadow y = flats(0, 12, 13, 6, 11, 16);
         y.quarrel(0, 1, true);
         t.due("16, too: of those FAR 2 the least", goes(y, 0, "flee"), 0);
+        SevenToAShadow z = flats(0, 0, 6, 13, 16, 3);
+        for (int q = 1; q < 4; q++) {
+            z.quarrel(0, q, true);
+        }
+        t.due("6, 13, 16 leave 3, 4, 23, 24, and 3 is taken: of those FAR 4 the least", goes(z, 0, "flee"), 4);
     }
 
     private static void fleeNone() {
@@ -468,6 +515,12 @@ public final class HourBoundsTest {
             t.due("BURN", x.of(0, 7), burnt);
             t.due("BURN of one who is SHADED", x.of(1, 7), 0);
         }
+        SevenToAShadow gone = fleeing(12, 13, 10, 3);
+        Checks.rules(gone, "flee when pilgrim = 0;");
+        t.due("when all have gone: the bearer went away", gone.hours(1), 3);
+        SevenToAShadow come = fleeing(7, 2, 10, 3);
+        Checks.rules(come, "flee when pilgrim = 0;");
+        t.due("when all have gone: the bearer came", come.hours(1), 0);
     }
 
     private static void bookAboveZero() {
@@ -634,21 +687,53 @@ public final class HourBoundsTest {
 
     private static void eveningLeavesTheRest() {
         t.sentence("An EVENING: nothing else is changed");
-        SevenToAShadow x = Checks.lateScene();
+        SevenToAShadow x = Checks.scene();
+        x.give(3, 0, 22);
+        x.give(1, 0, 21);
+        Checks.rules(x, "stay;");
+        int fights = x.look(3) + 8;
+        x.hours(8);
+        t.due("FIGHTS", x.look(3), fights);
         int[] kept = {2, 3, 4, 5, 6, 7, 8};
         int[] before = new int[kept.length];
         for (int i = 0; i < kept.length; i++) {
             before[i] = x.look(kept[i]);
         }
-        int place = x.of(1, 0);
-        int water = x.of(1, 4);
+        List<Integer> people = lasting(x);
         t.due("evening", x.evening(), 2);
         for (int i = 0; i < kept.length; i++) {
             t.due("look(" + kept[i] + ")", x.look(kept[i]), before[i]);
         }
-        t.due("PLACE", x.of(1, 0), place);
-        t.due("WATER", x.of(1, 4), water);
+        t.alike("an EVENING", lasting(x), people);
         t.due("TOLD", x.look(81), 30);
+        x.hours(1);
+        t.due("they QUARREL still", x.look(3), fights + 1);
+        SevenToAShadow y = market(1, 9, 0);
+        y.hours(11);
+        t.due("BOUGHT", y.of(0, 9), 1);
+        t.due("SOLD", y.of(1, 8), 1);
+        people = lasting(y);
+        y.evening();
+        t.alike("an EVENING after a purchase", lasting(y), people);
+    }
+
+    /** Of each PILGRIM all but BURN and whether he is SHADED, of THE BOOK all, of each HOUR what was told. */
+    private static List<Integer> lasting(SevenToAShadow x) {
+        List<Integer> seen = new ArrayList<>();
+        for (int p = 0; p < x.look(2); p++) {
+            for (int what : new int[] {0, 1, 2, 3, 4, 5, 6, 8, 9}) {
+                seen.add(x.of(p, what));
+            }
+        }
+        for (int i = 0; i < x.look(4); i++) {
+            for (int what = 0; what < 4; what++) {
+                seen.add(x.book(i, what));
+            }
+        }
+        for (int what = 10; what < 70; what++) {
+            seen.add(x.look(what));
+        }
+        return seen;
     }
 
     /** DAY 999 takes more calls than the 512 that the document promises anything about; it is seen all the same. */

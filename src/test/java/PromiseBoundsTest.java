@@ -492,6 +492,27 @@ public final class PromiseBoundsTest {
             int asked = what;
             same("of(1, " + what + ")", x -> x.of(1, asked), Checks.scene().of(1, what));
         }
+        ofEachItsOwn();
+    }
+
+    /** WAY 6: 12 bears a PARASOL and shades 11; who stands at 24 burns in HOUR 0 and buys that shade in HOUR 1. */
+    private static void ofEachItsOwn() {
+        SevenToAShadow x = new SevenToAShadow();
+        x.pilgrim(24, 1, 2, 3, 40);
+        x.pilgrim(11, 4, 3, 9, 7);
+        x.pilgrim(12, 3, 1, 8, 0);
+        x.give(2, 1, 1);
+        x.hours(1);
+        Checks.rules(x, "buy when pilgrim = 0;");
+        x.hours(1);
+        int[][] want = {{11, 1, 2, 3, 35, 0, 0, 3, 0, 1}, {24, 4, 3, 9, 12, 0, 0, 18, 1, 0}, {12, 3, 1, 8, 0, 1, 0, 0, 0, 0}};
+        for (int p = 0; p < 3; p++) {
+            for (int what = 0; what < 10; what++) {
+                t.due("of(" + p + ", " + what + ")", x.of(p, what), want[p][what]);
+            }
+        }
+        x.give(1, 2, 1);
+        t.due("a HAT", x.of(1, 6), 1);
     }
 
     private static void ofShaded() {

@@ -99,6 +99,9 @@ public final class RulesBoundsTest {
         t.fault("s;", 1, 0);
         t.fault("STAY;", 1, 0);
         t.fault("staY;", 1, 0);
+        t.fault("stayX;", 1, 0);
+        t.fault("stay when burnZ=1;", 1, 10);
+        t.fault("stay when Aburn=1;", 1, 10);
         t.fault("stay whenburn=1;", 1, 5);
         t.fault("stay when 1=1 orburn=1;", 1, 14);
         t.fault("stay when notburn=1;", 1, 10);
@@ -268,6 +271,11 @@ public final class RulesBoundsTest {
         t.fault("stay when (((((((( 1=1 not", 1, 23);
         t.fault("stay when (((((((( 1+not", 1, 21);
         t.fault("stay when 1/00000=1;", 1, 12);
+        String[] wrongs = {";", "+", "-", "*", "/", ")", "<", "=", ">", ".", "stay", "when", "or", "and", "burnt", "00000", ""};
+        for (String wrong : wrongs) {
+            t.fault("stay when (((((((( " + wrong, 1, 19);
+            t.fault("stay when not not not not not not not not " + wrong, 1, 42);
+        }
     }
 
     private static void partByZero() {
@@ -559,6 +567,25 @@ public final class RulesBoundsTest {
         t.due("sixteen lines", Checks.rules(x, "stay when 1=2;".repeat(15) + "flee when 1=1;"), 16);
         x.hours(1);
         t.due("the sixteenth", x.of(0, 0) != 12, true);
+        for (String text : new String[] {"", "stay;", "flee when 1=2;", "seek when 1=2; buy when 2<1; flee when not 1=1;"}) {
+            staysWithoutOne(text);
+        }
+    }
+
+    /** PILGRIM 0 could do anything: 1, with whom he QUARRELS, stands beside him, 3 shades 10, 11 and 2, who did not burn. */
+    private static void staysWithoutOne(String text) {
+        SevenToAShadow x = new SevenToAShadow();
+        x.pilgrim(24, 0, 1, 1, 9);
+        x.pilgrim(23, 0, 1, 1, 9);
+        x.pilgrim(10, 0, 1, 1, 9);
+        x.pilgrim(12, 0, 1, 1, 9);
+        x.give(3, 1, 1);
+        x.quarrel(0, 1, true);
+        x.hours(1);
+        Checks.rules(x, text);
+        x.hours(1);
+        t.due("he stays by " + text, x.of(0, 0), 24);
+        t.due("he buys nothing by " + text, x.of(0, 9), 0);
     }
 
     private static void textAfterText() {

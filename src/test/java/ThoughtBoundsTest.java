@@ -30,6 +30,7 @@ public final class ThoughtBoundsTest {
         thiefNoneTold();
         thiefOfTen();
         thiefJustSo();
+        thiefFirst();
         undoTwelve();
         undoNotUndoneYet();
         undoState();
@@ -42,6 +43,7 @@ public final class ThoughtBoundsTest {
         imageNone();
         imageAsItWas();
         imageOfWhatIsNotLookedAt();
+        imageForgetsLaterOnes();
         imageMoreThanOnce();
         imageTakenAnew();
         imageButTape();
@@ -132,6 +134,11 @@ public final class ThoughtBoundsTest {
         x.hour(0, 1, 4);
         t.due("none but the bearer's, with ALTITUDE 4", x.walk(0, 0, 10), 0);
         t.due("so he burns", x.walk(0, 0, 1), 1);
+        x.hour(0, 1, 3);
+        x.hour(0, 3, 2);
+        t.due("by ROAD 2 it falls from 14 on 19", x.walk(0, 0, 10), 19);
+        x.hour(0, 0, 4);
+        t.due("and with SUN 4 on 13", x.walk(0, 0, 10), 13);
     }
 
     private static void walkFreeOfBearers() {
@@ -214,8 +221,15 @@ public final class ThoughtBoundsTest {
         t.due("nobody", x.fewest(0, 11), 0);
         x.pilgrim(0, 0, 1, 0, 0);
         t.due("one", x.fewest(0, 11), 1);
+        x.give(0, 1, 1);
+        t.due("one who bears a PARASOL now: if just these bore some", x.fewest(0, 11), 1);
         x.give(0, 2, 1);
         t.due("one with a HAT", x.fewest(0, 11), 0);
+        SevenToAShadow y = new SevenToAShadow();
+        y.pilgrim(11, 0, 1, 0, 0);
+        y.pilgrim(12, 0, 1, 0, 0);
+        y.give(0, 1, 1);
+        t.due("12 in HOUR 0, though 11 bears one now", y.fewest(0, 0), 2);
     }
 
     private static void fewestAll() {
@@ -243,7 +257,7 @@ public final class ThoughtBoundsTest {
         for (int place : places) {
             x.pilgrim(place, 0, 1, 0, 0);
         }
-        t.due("14 alone: fewest, though 8 is more than 7", x.fewest(0, 0), 8);
+        t.due("14 alone shades all", x.fewest(0, 0), 8);
         x.hour(0, 1, 1);
         t.due("ALTITUDE 1: 14 does not reach 10: with 10", x.fewest(0, 0), 8 | 1);
         x.hour(0, 1, 3);
@@ -266,7 +280,30 @@ public final class ThoughtBoundsTest {
         x.hour(0, 1, 0);
         x.hour(0, 0, 6);
         t.due("WAY 2: 10 shades all", x.fewest(0, 0), 1);
+        fewestBeforeNumber();
         equallyFew();
+    }
+
+    private static void fewestBeforeNumber() {
+        // HOUR 0 by WAY 6: 12 may shade 10, TALL 3 shades 2. HOUR 1 by WAY 0: 12 may shade 2, TALL 15 shades 10.
+        SevenToAShadow x = new SevenToAShadow();
+        x.hour(1, 0, 4);
+        x.hour(1, 1, 0);
+        x.pilgrim(10, 0, 1, 0, 0);
+        x.pilgrim(2, 0, 1, 0, 0);
+        x.pilgrim(12, 0, 1, 0, 0);
+        x.pilgrim(15, 5, 1, 0, 0);
+        x.pilgrim(3, 5, 1, 0, 0);
+        for (int p = 2; p < 5; p++) {
+            x.give(p, 2, 1);
+        }
+        t.due("HOUR 0: 10 himself", x.fewest(0, 0), 1);
+        t.due("HOUR 1: 2 himself", x.fewest(1, 1), 2);
+        t.due("both: 12 alone, fewer than 10 and 2, though 4 is more than 3", x.fewest(0, 1), 4);
+        x.give(2, 2, 0);
+        t.due("12 has no HAT: 12 alone still", x.fewest(0, 1), 4);
+        x.give(2, 0, 24);
+        t.due("12 is away: all three", x.fewest(0, 1), 7);
     }
 
     private static void equallyFew() {
@@ -546,6 +583,28 @@ public final class ThoughtBoundsTest {
         t.due("not of both", x.thief(0), 0);
     }
 
+    private static void thiefFirst() {
+        t.sentence("the first (by HOUR, ROAD)");
+        SevenToAShadow x = new SevenToAShadow();
+        x.pilgrim(12, 0, 1, 1, 0);
+        x.pilgrim(11, 0, 1, 1, 0);
+        x.give(0, 1, 1);
+        // As above 33 is by HOURS 3 or 8, whose SUNS ask ROADS 5 and 3 for WAY 6.
+        x.hour(3, 0, 7);
+        x.told(1, 33);
+        t.due("two", x.thief(0), 2);
+        t.due("the first HOUR", x.thief(1), 3);
+        t.due("though its ROAD is more", x.thief(2), 5);
+        x.hour(3, 1, 4);
+        t.due("one", x.thief(0), 1);
+        t.due("the other HOUR", x.thief(1), 8);
+        t.due("its ROAD", x.thief(2), 3);
+        x.told(1, 38);
+        t.due("any other ROAD in HOUR 0", x.thief(0), 7);
+        t.due("HOUR", x.thief(1), 0);
+        t.due("the first ROAD", x.thief(2), 1);
+    }
+
     private static void undoTwelve() {
         t.sentence("UNDO: the latest HOUR not undone yet goes back: 12 are kept");
         SevenToAShadow x = new SevenToAShadow();
@@ -614,6 +673,8 @@ public final class ThoughtBoundsTest {
         x.pilgrim(12, 0, 1, 1, 0);
         x.give(2, 1, 1);
         x.quarrel(0, 2, true);
+        x.set(0, 4);
+        x.set(1, 2);
         Checks.rules(x, "buy when pilgrim = 0;");
         x.hours(1);
         x.hours(1);
@@ -631,6 +692,10 @@ public final class ThoughtBoundsTest {
         t.due("lines", x.look(4), 1);
         t.due("no line", x.book(1, 0), NONE);
         t.due("NOW", x.look(1), 1);
+        int[] then = {0, 1, 3, 0, 1, 0, 4, 2, 1, 1};
+        for (int what = 0; what < 10; what++) {
+            t.due("look(" + what + ")", x.look(what), then[what]);
+        }
     }
 
     private static void undoOfTen() {
@@ -799,6 +864,8 @@ public final class ThoughtBoundsTest {
         x.pilgrim(20, 9, 3, 9, 9);
         x.state(1);
         Checks.rules(x, "flee; stay; stay; stay; stay;");
+        x.hours(12 - x.look(1));
+        x.evening();
         x.hours(3);
     }
 
@@ -845,6 +912,31 @@ public final class ThoughtBoundsTest {
         x.hours(1);
         t.due("1 flees by the line of then", x.of(1, 0) != 13, true);
         t.due("0 stays", x.of(0, 0), 12);
+    }
+
+    private static void imageForgetsLaterOnes() {
+        t.sentence("THE IMAGE: all that is: one who comes then is as one who comes at first");
+        SevenToAShadow x = new SevenToAShadow();
+        x.pilgrim(0, 0, 1, 1, 9);
+        x.image(true);
+        for (int p = 1; p < 10; p++) {
+            x.pilgrim(p, 9, 3, 9, 99);
+            x.give(p, 1, p % 2);
+            x.give(p, 2, 1 - p % 2);
+            x.quarrel(0, p, true);
+            x.told(p, 5);
+        }
+        x.hours(12);
+        x.image(false);
+        for (int p = 1; p < 10; p++) {
+            t.due("his number", x.pilgrim(p, 0, 1, 1, 0), p);
+            for (int what = 5; what < 10; what++) {
+                t.due("of(" + p + ", " + what + ")", x.of(p, what), 0);
+            }
+            t.due("nothing TOLD", x.look(80 + p), NONE);
+        }
+        t.due("all burn", x.hours(1), 10);
+        t.due("nobody QUARRELS", x.look(3), 0);
     }
 
     private static void imageMoreThanOnce() {
