@@ -107,6 +107,52 @@ final class Checks {
         return set;
     }
 
+    /** The PLACES next to 12, by WAYS. */
+    static final int[] NEXT = {7, 8, 13, 18, 17, 16, 11, 6};
+
+    /** HOURS that are all unlike: ALTITUDE 3, so that a PARASOL shades one more PLACE, by WAYS that go round. */
+    static SevenToAShadow unlikeHours() {
+        SevenToAShadow x = new SevenToAShadow();
+        for (int h = 0; h < 12; h++) {
+            x.hour(h, 0, unlikeSun(h));
+            x.hour(h, 1, 3);
+            x.hour(h, 2, unlikeHeat(h));
+            x.hour(h, 3, unlikeRoad(h));
+        }
+        return x;
+    }
+
+    /** With a bearer at 12, and eight around him, of whom the one by WAY w has the number and the SKIN w + 1. */
+    static SevenToAShadow unlikeRound() {
+        SevenToAShadow x = unlikeHours();
+        x.pilgrim(12, 0, 1, 9, 0);
+        x.give(0, 1, 1);
+        for (int way = 0; way < 8; way++) {
+            x.pilgrim(NEXT[way], 0, 1, way + 1, 0);
+        }
+        return x;
+    }
+
+    private static int unlikeSun(int h) {
+        return (3 * h + 1) % 8;
+    }
+
+    static int unlikeHeat(int h) {
+        return 1 + 5 * h % 9;
+    }
+
+    static int unlikeRoad(int h) {
+        return (5 * h + h / 4 + 3) % 8;
+    }
+
+    static int unlikeWay(int h, int road) {
+        return Math.floorMod(unlikeSun(h) + 4 - road, 8);
+    }
+
+    static int unlikeWay(int h) {
+        return unlikeWay(h, unlikeRoad(h));
+    }
+
     /** A run after which nothing is as it is at first; made anew it is the same again. NOW is 4, DAY 1. */
     static SevenToAShadow scene() {
         SevenToAShadow x = new SevenToAShadow();

@@ -14,6 +14,7 @@ public final class HourBoundsTest {
         seekIfNotShaded();
         seekFreePlaces();
         seekShadeOfOthers();
+        seekAndBuyByTheHour();
         seekTheNearest();
         seekTheLeast();
         seekNone();
@@ -29,6 +30,7 @@ public final class HourBoundsTest {
         buyLeastBurn();
         buyAmongTen();
         buyChanges();
+        buyOften();
         buyNothing();
         burns();
         bookAboveZero();
@@ -193,6 +195,30 @@ public final class HourBoundsTest {
         y.pilgrim(12, 9, 3, 1, 0);
         y.pilgrim(22, 9, 1, 1, 0);
         t.due("another's is, if farther off", goes(y, 0, "seek"), 21);
+        SevenToAShadow z = flats(0, 12, 24);
+        z.give(0, 1, 1);
+        z.hour(0, 3, 2);
+        t.due("with ROAD 2 the shade of 12 falls on 17 and 22", goes(z, 1, "seek"), 17);
+    }
+
+    private static void seekAndBuyByTheHour() {
+        t.sentence("seek, buy: PLACES that are shaded, who are SHADED: in this HOUR");
+        for (int h = 1; h < 12; h++) {
+            int shaded = Checks.NEXT[Checks.unlikeWay(h)];
+            SevenToAShadow x = Checks.unlikeHours();
+            x.pilgrim(12, 0, 1, 0, 0);
+            x.give(0, 1, 1);
+            x.pilgrim(0, 0, 1, 1, 9);
+            x.hours(h);
+            x.image(true);
+            t.due("seek in HOUR " + h, goes(x, 1, "seek"), shaded);
+            x.image(false);
+            x.pilgrim(shaded, 0, 1, 0, 0);
+            t.due("buy in HOUR " + h, goes(x, 1, "buy"), shaded);
+            x.image(false);
+            x.pilgrim(Checks.NEXT[(Checks.unlikeWay(h) + 1) % 8], 0, 1, 0, 0);
+            t.due("buy of one who is not SHADED in HOUR " + h, goes(x, 1, "buy"), 0);
+        }
     }
 
     private static void seekTheNearest() {
@@ -410,6 +436,13 @@ public final class HourBoundsTest {
         high.give(1, 0, 0);
         high.hour(1, 1, 3);
         buys("not SHADED by one who is TALL, ALTITUDE 3", high, false);
+        SevenToAShadow buyers = new SevenToAShadow();
+        buyers.pilgrim(24, 5, 1, 1, 9);
+        buyers.pilgrim(0, 0, 1, 0, 0);
+        buyers.hours(1);
+        buyers.give(1, 0, 23);
+        Checks.rules(buyers, "buy when pilgrim = 0;");
+        buys("SHADED by the buyer, who is TALL", buyers, true);
     }
 
     private static void buyBurnLess() {
@@ -454,6 +487,17 @@ public final class HourBoundsTest {
         t.due("5, 5, 5", seller(5, 5, 5), NONE);
         t.due("6, 7, 8", seller(6, 7, 8), NONE);
         t.due("0, 0, 0", seller(0, 0, 0), 2);
+        SevenToAShadow x = flats(0, 24, 10, 11);
+        x.pilgrim(20, 0, 1, 9, 0);
+        x.pilgrim(12, 0, 1, 1, 0);
+        x.give(4, 1, 1);
+        x.give(3, 2, 1);
+        x.hours(1);
+        x.give(1, 0, 0);
+        x.give(3, 0, 10);
+        x.give(3, 2, 0);
+        t.due("SKIN is not asked, though it is 9", goes(x, 0, "buy"), 11);
+        t.due("of 11 and 10 the least number", x.of(2, 8), 1);
     }
 
     /** Any of ten may sell to any other: the bearer stands at 14, the seller at 10, the buyer in the sun. */
@@ -488,6 +532,28 @@ public final class HourBoundsTest {
         y.give(1, 3, 9999);
         y.hours(1);
         t.due("who is paid may have more than can be told", y.of(1, 4), 10004);
+    }
+
+    private static void buyOften() {
+        t.sentence("SOLD, BOUGHT (how often)");
+        SevenToAShadow x = market(1, 99, 0);
+        for (int often = 1; often <= 9; often++) {
+            buys(x, often);
+            x.give(1, 0, 20);
+            x.give(0, 0, 24);
+            x.give(1, 0, 11);
+        }
+    }
+
+    private static void buys(SevenToAShadow x, int often) {
+        x.hours(1);
+        t.due("where he is, the time " + often, x.of(0, 0), 11);
+        t.due("BOUGHT", x.of(0, 9), often);
+        t.due("SOLD by him", x.of(0, 8), 0);
+        t.due("SOLD", x.of(1, 8), often);
+        t.due("BOUGHT by the other", x.of(1, 9), 0);
+        t.due("WATER", x.of(0, 4), 99 - 5 * often);
+        t.due("WATER of the other", x.of(1, 4), 7 + 5 * often);
     }
 
     private static void buyNothing() {

@@ -21,6 +21,7 @@ public final class MapBoundsTest {
         ownPlaces();
         pilgrimsAtFirst();
         wayModuloEight();
+        eachHourItsOwn();
         parasolFromCorners();
         parasolFromEdges();
         parasolByAltitude();
@@ -32,6 +33,7 @@ public final class MapBoundsTest {
         girth();
         besideByWay();
         besideAtEdges();
+        tallBearer();
         shadedBy();
         t.finish();
     }
@@ -292,6 +294,27 @@ public final class MapBoundsTest {
         }
     }
 
+    private static void eachHourItsOwn() {
+        t.sentence("each with a SUN, an ALTITUDE, a HEAT, a ROAD; SHADE falls in an HOUR by SUN and ROAD: of that HOUR");
+        SevenToAShadow x = Checks.unlikeRound();
+        int[] burns = new int[8];
+        for (int h = 0; h < 12; h++) {
+            int sum = 0;
+            for (int way = 0; way < 8; way++) {
+                boolean shaded = way == Checks.unlikeWay(h);
+                t.due("shade by WAY " + way + " in HOUR " + h, x.shade(Checks.NEXT[way], h), shaded ? 1 : 0);
+                t.due("SHADED by WAY " + way + " in HOUR " + h, x.of(way + 1, 10), shaded ? 1 : 0);
+                int burnt = shaded ? 0 : Checks.unlikeHeat(h) * (way + 1);
+                burns[way] += burnt;
+                sum += burnt;
+            }
+            t.due("how much all burnt in HOUR " + h, x.hours(1), sum);
+            for (int way = 0; way < 8; way++) {
+                t.due("BURN by WAY " + way + " after HOUR " + h, x.of(way + 1, 7), burns[way]);
+            }
+        }
+    }
+
     /** The shade of one who stands there alone, by a WAY; with a PARASOL if he is not TALL. */
     private static int shade(int place, int tall, int girth, int way, int altitude) {
         SevenToAShadow x = new SevenToAShadow();
@@ -443,6 +466,23 @@ public final class MapBoundsTest {
         t.due("from 6 by 7", shade(6, 5, 2, 7, 0), Checks.places(0));
         t.due("from 16 by 5", shade(16, 5, 2, 5, 0), Checks.places(20));
         t.due("from 18 by 3", shade(18, 5, 2, 3, 0), Checks.places(24));
+    }
+
+    private static void tallBearer() {
+        t.sentence("who bears a PARASOL .. one whose TALL is 5 or more: one may be both");
+        for (int girth = 1; girth <= 3; girth++) {
+            SevenToAShadow x = new SevenToAShadow();
+            x.pilgrim(12, 5, girth, 0, 0);
+            x.give(0, 1, 1);
+            int sides = girth == 1 ? 0 : Checks.places(6, 16);
+            t.due("ALTITUDE 0, GIRTH " + girth, Checks.shadeIn(x, 0), Checks.places(12, 11, 10) | sides);
+            x.hour(0, 1, 3);
+            t.due("ALTITUDE 3, GIRTH " + girth, Checks.shadeIn(x, 0), Checks.places(12, 11) | (girth == 3 ? sides : 0));
+            x.hour(0, 1, 4);
+            t.due("ALTITUDE 4, GIRTH " + girth, Checks.shadeIn(x, 0), Checks.places(12));
+            x.give(0, 2, 1);
+            t.due("a HAT changes nothing", Checks.shadeIn(x, 0), Checks.places(12));
+        }
     }
 
     private static void shadedBy() {

@@ -227,6 +227,12 @@ public final class PromiseBoundsTest {
             t.due("give(0, " + gift[0] + ", " + gift[1] + ")", x.give(0, gift[0], gift[1]), true);
             t.due("he has it", x.of(0, gift[2]), gift[1]);
         }
+        int[][] both = {{1, 1, 1, 0}, {2, 1, 1, 1}, {1, 1, 1, 1}, {1, 0, 0, 1}, {1, 1, 1, 1}, {2, 0, 1, 0}};
+        for (int[] gift : both) {
+            x.give(0, gift[0], gift[1]);
+            t.due("PARASOL after " + gift[0] + ", " + gift[1], x.of(0, 5), gift[2]);
+            t.due("HAT after " + gift[0] + ", " + gift[1], x.of(0, 6), gift[3]);
+        }
         int[] row = {2, 0, 1, 1, 1, 0, 0, 0, 0, 0};
         for (int what = 0; what < 10; what++) {
             t.due("of the other, " + what, x.of(1, what), row[what]);

@@ -27,6 +27,7 @@ public final class RulesBoundsTest {
         deepest();
         valuesAtTheirEnds();
         otherValues();
+        valuesOfEach();
         firstLineThatIsSo();
         textAfterText();
         faultLeavesRules();
@@ -154,6 +155,8 @@ public final class RulesBoundsTest {
         so("0000 = 0", true);
         so("1000 = 999 + 1", true);
         so("12 = 10 + 2", true);
+        so("0010 = 9 + 1", true);
+        so("010 = 8", false);
     }
 
     private static void blanks() {
@@ -550,6 +553,39 @@ public final class RulesBoundsTest {
         then.hours(1);
         t.due("as all stand: nobody shades 1 when 0 is gone", then.of(0, 0) != 13, true);
         t.due("and is FAR 2, so that 1 stays", then.of(1, 0), 12);
+    }
+
+    private static void valuesOfEach() {
+        t.sentence("burn; water; tall; skin; hour; place; pilgrim: of the one who goes, in the HOUR that is");
+        String[] names = {"burn", "water", "tall", "skin", "hour", "place", "pilgrim"};
+        int[][] values = {{6, 3, 1, 2, 2, 0, 0}, {21, 8, 6, 7, 2, 4, 1}, {12, 50, 3, 4, 2, 20, 2}};
+        for (int p = 0; p < 3; p++) {
+            for (int i = 0; i < names.length; i++) {
+                for (int other = 0; other < 3; other++) {
+                    SevenToAShadow x = threeWithFoes();
+                    Checks.rules(x, "flee when " + names[i] + " = " + values[other][i] + ";");
+                    x.hours(1);
+                    boolean goes = values[other][i] == values[p][i];
+                    t.due(names[i] + " = " + values[other][i] + " of " + p, x.of(p, 0) != values[p][5], goes);
+                }
+            }
+        }
+    }
+
+    /** Three in corners, each with one beside him with whom he QUARRELS; NOW is 2, nobody was SHADED. */
+    private static SevenToAShadow threeWithFoes() {
+        SevenToAShadow x = new SevenToAShadow();
+        x.pilgrim(0, 1, 1, 2, 3);
+        x.pilgrim(4, 6, 1, 7, 8);
+        x.pilgrim(20, 3, 1, 4, 50);
+        int[] foes = {6, 8, 16};
+        for (int p = 0; p < 3; p++) {
+            x.quarrel(p, x.pilgrim(foes[p], 9, 1, 9, 9999), true);
+        }
+        x.hour(0, 1, 4);
+        x.hour(1, 1, 4);
+        x.hours(2);
+        return x;
     }
 
     private static void firstLineThatIsSo() {

@@ -1,3 +1,5 @@
+import java.util.ArrayList;
+import java.util.List;
 import java.util.function.Consumer;
 
 /** "Terms", ==== 3: what is found in thought, HOURS undone and THE IMAGE, at the bounds that are named. */
@@ -7,6 +9,11 @@ public final class ThoughtBoundsTest {
 
     public static void main(String[] args) {
         inThought();
+        thoughtWhateverNow();
+        turnOfEachHour();
+        walkOfEachHour();
+        fewestOfEachHour();
+        thiefOfEachHour();
         walkHours();
         walkMost();
         walkGreatestOfTen();
@@ -73,6 +80,138 @@ public final class ThoughtBoundsTest {
         t.due("NOW", x.look(1), 0);
         t.due("nobody seeks", x.of(1, 0), 24);
         t.due("the ROAD is as told", x.look(13), 0);
+    }
+
+    private static void thoughtWhateverNow() {
+        t.sentence("IN THOUGHT: of whatever HOURS are asked, whatever NOW is");
+        List<Integer> first = thoughts(crossing(0));
+        t.alike("six HOURS", thoughts(crossing(6)), first);
+        t.alike("twelve HOURS", thoughts(crossing(12)), first);
+    }
+
+    /** One bears a PARASOL, one is TALL, one has a HAT; so many HOURS went by, in which nobody went anywhere. */
+    private static SevenToAShadow crossing(int now) {
+        SevenToAShadow x = new SevenToAShadow();
+        x.pilgrim(12, 0, 1, 2, 0);
+        x.pilgrim(7, 9, 3, 3, 0);
+        x.pilgrim(11, 0, 1, 5, 0);
+        x.pilgrim(18, 0, 1, 4, 0);
+        x.give(0, 1, 1);
+        x.give(3, 2, 1);
+        x.hour(3, 3, 2);
+        x.told(2, 185);
+        if (now > 0) {
+            x.hours(now);
+        }
+        return x;
+    }
+
+    private static List<Integer> thoughts(SevenToAShadow x) {
+        List<Integer> all = new ArrayList<>();
+        for (int h = 0; h < 12; h++) {
+            for (int to = h; to < 12; to++) {
+                all.add(x.walk(h, to, 1));
+                all.add(x.walk(h, to, 12));
+                all.add(x.fewest(h, to));
+            }
+            for (int what = 0; what < 2; what++) {
+                all.add(x.turn(h, 3, what));
+                all.add(x.halts(h, 2, what));
+            }
+        }
+        for (int what = 0; what < 4; what++) {
+            all.add(x.thief(what));
+        }
+        return all;
+    }
+
+    private static void turnOfEachHour() {
+        t.sentence("TURN of an HOUR's ROAD to r: of that HOUR, with its SUN, HEAT and ROAD");
+        SevenToAShadow x = Checks.unlikeRound();
+        for (int h = 0; h < 12; h++) {
+            int before = Checks.unlikeWay(h);
+            for (int road = 0; road < 8; road++) {
+                int after = Checks.unlikeWay(h, road);
+                t.due("saved in " + h + " by " + road, x.turn(h, road, 0), Checks.unlikeHeat(h) * (after - before));
+                t.due("gain in " + h + " by " + road, x.turn(h, road, 1), after == before ? 0 : 2 << after);
+            }
+        }
+    }
+
+    private static void walkOfEachHour() {
+        t.sentence("HEAT of all those HOURS added in which it is shaded by no PARASOL: by the ROAD of each");
+        SevenToAShadow x = Checks.unlikeRound();
+        for (int from = 0; from < 12; from++) {
+            int[] suns = new int[25];
+            for (int to = from; to < 12; to++) {
+                for (int place = 0; place < 25; place++) {
+                    suns[place] += place == Checks.NEXT[Checks.unlikeWay(to)] ? 0 : Checks.unlikeHeat(to);
+                }
+                int best = 0;
+                for (int place = 0; place < 25; place++) {
+                    best = place != 12 && suns[place] < suns[best] ? place : best;
+                }
+                t.due("the palest from " + from + " to " + to, x.walk(from, to, 18), best);
+            }
+        }
+    }
+
+    private static void fewestOfEachHour() {
+        t.sentence("all would be SHADED in all these HOURS: by the ROAD of each");
+        for (int way = 0; way < 8; way++) {
+            SevenToAShadow x = Checks.unlikeHours();
+            x.pilgrim(12, 0, 1, 0, 0);
+            x.pilgrim(Checks.NEXT[way], 0, 1, 0, 0);
+            for (int from = 0; from < 12; from++) {
+                boolean first = true;
+                boolean second = true;
+                for (int to = from; to < 12; to++) {
+                    first &= Checks.unlikeWay(to) == way;
+                    second &= Checks.unlikeWay(to) == (way + 4) % 8;
+                    t.due("WAY " + way + " from " + from + " to " + to, x.fewest(from, to), first ? 1 : second ? 2 : 3);
+                }
+            }
+        }
+    }
+
+    private static void thiefOfEachHour() {
+        t.sentence("turnings of one HOUR's ROAD: by SUN, HEAT and ROAD of each");
+        for (int way = 0; way < 8; way++) {
+            SevenToAShadow x = Checks.unlikeHours();
+            x.pilgrim(12, 0, 1, 1, 0);
+            x.pilgrim(Checks.NEXT[way], 0, 1, 1, 0);
+            x.give(0, 1, 1);
+            int burn = 0;
+            for (int h = 0; h < 12; h++) {
+                burn += Checks.unlikeWay(h) == way ? 0 : Checks.unlikeHeat(h);
+            }
+            for (int more = -9; more <= 9; more++) {
+                x.told(1, burn + more);
+                t.due("so without one, WAY " + way + ", " + more, x.thief(3), more == 0 ? 1 : 0);
+                turnings("WAY " + way + ", " + more, x, way, more);
+            }
+        }
+    }
+
+    /** All turnings by which the one at this WAY from the bearer burns so much more. */
+    private static void turnings(String what, SevenToAShadow x, int way, int more) {
+        int count = 0;
+        int firstHour = NONE;
+        int firstRoad = NONE;
+        for (int h = 11; h >= 0; h--) {
+            int burnt = Checks.unlikeWay(h) == way ? 0 : Checks.unlikeHeat(h);
+            for (int road = 7; road >= 0; road--) {
+                int turned = Checks.unlikeWay(h, road) == way ? 0 : Checks.unlikeHeat(h);
+                if (road != Checks.unlikeRoad(h) && turned - burnt == more) {
+                    count++;
+                    firstHour = h;
+                    firstRoad = road;
+                }
+            }
+        }
+        t.due("turnings, " + what, x.thief(0), count);
+        t.due("the HOUR, " + what, x.thief(1), firstHour);
+        t.due("the ROAD, " + what, x.thief(2), firstRoad);
     }
 
     private static void walkHours() {
@@ -213,6 +352,9 @@ public final class ThoughtBoundsTest {
         x.give(0, 2, 1);
         t.due("the sum", x.walk(0, 0, 1), 3);
         t.due("where", x.walk(0, 0, 10), 0);
+        x.pilgrim(8, 0, 1, 3, 0);
+        t.due("by number, HAT or not", x.walk(0, 0, 10), 0);
+        t.due("the next one", x.walk(0, 0, 11), 1);
     }
 
     private static void fewestNobody() {
