@@ -138,7 +138,7 @@ final class Checks {
     }
 
     static int unlikeHeat(int h) {
-        return 1 + 5 * h % 9;
+        return 1 + (5 * h + 4) % 9;
     }
 
     static int unlikeRoad(int h) {

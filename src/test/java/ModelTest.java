@@ -5,6 +5,7 @@ import java.util.Random;
 /** Runs of calls by chance (the same ones each time), each answer compared with that of the Model. */
 public final class ModelTest {
     private static final int CALLS = 512;
+    private static final int NEVER = -1;
     private final Random chance;
     private final RuleTexts texts;
     private final SevenToAShadow real = new SevenToAShadow();
@@ -23,7 +24,7 @@ public final class ModelTest {
     }
 
     public static void main(String[] args) {
-        int runs = args.length > 0 ? Integer.parseInt(args[0]) : 600;
+        int runs = args.length > 0 ? Integer.parseInt(args[0]) : 2000;
         for (int seed = 1; seed <= runs; seed++) {
             ModelTest run = new ModelTest(seed);
             run.go();
@@ -58,7 +59,11 @@ public final class ModelTest {
     }
 
     private void go() {
+        int early = chance.nextInt(4) == 0 ? chance.nextInt(crowd + 1) : NEVER;
         for (int i = 0; i < crowd; i++) {
+            if (i == early) {
+                due("image(true)", real.image(true), model.image(true));
+            }
             addPilgrim();
         }
         equip();
@@ -85,20 +90,26 @@ public final class ModelTest {
         int b = any(0, 9);
         int c = any(1, 3);
         int d = any(0, 9);
-        int e = chance.nextInt(8) == 0 ? any(9980, 9999) : any(0, 60);
+        int e = anyWater();
         due("pilgrim(" + a + ", " + b + ", " + c + ", " + d + ", " + e + ")", real.pilgrim(a, b, c, d, e),
             model.pilgrim(a, b, c, d, e));
+    }
+
+    private int anyWater() {
+        int kind = chance.nextInt(8);
+        return kind == 0 ? any(9980, 9999) : kind == 1 ? any(0, 0) : any(0, 60);
     }
 
     /** Some start with PARASOLS, HATS and QUARRELS, which single calls by chance seldom bring together. */
     private void equip() {
         int all = model.m.all.size();
         int many = chance.nextInt(4);
+        int hats = chance.nextInt(7);
         for (int p = 0; p < all; p++) {
             if (chance.nextInt(6) < many) {
                 due("give(" + p + ", 1, 1)", real.give(p, 1, 1), model.give(p, 1, 1));
             }
-            if (chance.nextInt(12) < many) {
+            if (chance.nextInt(12) < hats) {
                 due("give(" + p + ", 2, 1)", real.give(p, 2, 1), model.give(p, 2, 1));
             }
             int q = chance.nextInt(all);
@@ -119,7 +130,7 @@ public final class ModelTest {
         } else if (kind == 1) {
             int p = anybody();
             int what = any(0, 3);
-            int v = any(0, what == 0 ? 24 : what == 3 ? 100 : 1);
+            int v = what == 3 ? anyWater() : any(0, what == 0 ? 24 : 1);
             due("give(" + p + ", " + what + ", " + v + ")", real.give(p, what, v), model.give(p, what, v));
         } else if (kind == 2) {
             int a = anybody();
@@ -133,7 +144,8 @@ public final class ModelTest {
             due("state(" + v + ")", real.state(v), model.state(v));
         } else if (kind == 5) {
             int what = any(0, 1);
-            int v = any(0, chance.nextBoolean() ? 99 : 9);
+            int v = any(0, new int[] {0, 3, 9, 99}[chance.nextInt(4)]);
+            v = v == 3 && chance.nextInt(4) == 0 ? 99 : v;
             due("set(" + what + ", " + v + ")", real.set(what, v), model.set(what, v));
         } else {
             addPilgrim();
@@ -195,10 +207,38 @@ public final class ModelTest {
         if (chance.nextInt(3) > 0) {
             due("evening()", real.evening(), model.evening());
         }
+        lastLine();
         for (int p = 0; p < model.m.all.size() && chance.nextInt(12) > 0; p++) {
             for (int what : new int[] {0, 4, 7}) {
                 due("of(" + p + ", " + what + ")", real.of(p, what), model.of(p, what));
             }
+        }
+    }
+
+    private void lastLine() {
+        int last = model.m.book.size() - 1;
+        int what = chance.nextInt(4);
+        due("book(" + last + ", " + what + ")", real.book(last, what), model.book(last, what));
+    }
+
+    /** What comes on the TAPE and goes again apart from whole texts. */
+    private void tape() {
+        int kind = chance.nextInt(5);
+        if (kind == 0) {
+            int n = any(0, 400);
+            due("end(" + n + ")", real.end(n), model.end(n));
+        } else if (kind == 1) {
+            due("text()", real.text(), model.text());
+        } else if (kind == 2) {
+            int what = any(0, 1);
+            due("fault(" + what + ")", real.fault(what), model.fault(what));
+        } else {
+            int[] five = new int[5];
+            for (int i = 0; i < 5; i++) {
+                five[i] = chance.nextBoolean() ? chance.nextInt() : 0x2020203b;
+            }
+            due("feed(" + five[0] + ", .. )", real.feed(five[0], five[1], five[2], five[3], five[4]),
+                model.feed(five[0], five[1], five[2], five[3], five[4]));
         }
     }
 
@@ -214,10 +254,21 @@ public final class ModelTest {
         for (int what = 0; what < 10; what++) {
             due("look(" + what + ")", real.look(what), model.look(what));
         }
+        if (kind >= 8 && chance.nextBoolean()) {
+            addPilgrim();
+            askAll(model.m.all.size() - 1);
+        }
+    }
+
+    private void askAll(int p) {
+        for (int what = 0; what <= 10; what++) {
+            due("of(" + p + ", " + what + ")", real.of(p, what), model.of(p, what));
+        }
+        due("look(" + (80 + p) + ")", real.look(80 + p), model.look(80 + p));
     }
 
     private void ask() {
-        int kind = chance.nextInt(5);
+        int kind = chance.nextInt(6);
         if (kind == 0) {
             int p = anybody();
             int what = any(0, 10);
@@ -230,6 +281,8 @@ public final class ModelTest {
             int i = any(0, Math.max(0, model.m.book.size() - 1));
             int what = any(0, 3);
             due("book(" + i + ", " + what + ")", real.book(i, what), model.book(i, what));
+        } else if (kind == 3) {
+            tape();
         } else {
             int what = any(0, 91);
             due("look(" + what + ")", real.look(what), model.look(what));

@@ -8,7 +8,10 @@ final class RuleTexts {
     private static final String[] SCRAPS = {"stay", "seek", "buy", "flee", "when", "or", "and", "not", "burn", "heat",
         "shaded", "water", "tall", "skin", "hour", "place", "bears", "pilgrim", ";", "+", "-", "*", "/", "(", ")", "<",
         "=", ">", "0", "0000", "00000", "7", "12345", "9999", "Stay", "burnt", ".", "\t", "\r", "\0", "\u00e9", "_"};
+    private static final String[] NUMBERS = {"0", "1", "2", "007", "010", "0000", "999", "9999", "9999", "9999"};
     private final Random chance;
+    /** In some texts most is NUMBERS and products, so that ints wrap and go below 0. */
+    private boolean great;
 
     RuleTexts(Random chance) {
         this.chance = chance;
@@ -25,6 +28,7 @@ final class RuleTexts {
 
     private String whole() {
         StringBuilder b = new StringBuilder();
+        great = chance.nextInt(4) == 0;
         int kind = chance.nextInt(12);
         int lines = kind == 0 ? 14 + chance.nextInt(6) : chance.nextInt(5);
         for (int i = 0; i < lines && b.length() < 330; i++) {
@@ -72,7 +76,7 @@ final class RuleTexts {
 
     private void sum(StringBuilder b) {
         product(b);
-        while (chance.nextInt(4) == 0) {
+        while (chance.nextInt(great ? 2 : 4) == 0) {
             b.append(gap()).append("+-".charAt(chance.nextInt(2))).append(gap());
             product(b);
         }
@@ -80,20 +84,20 @@ final class RuleTexts {
 
     private void product(StringBuilder b) {
         unit(b);
-        while (chance.nextInt(4) == 0) {
-            if (chance.nextBoolean()) {
+        while (chance.nextInt(great ? 2 : 4) == 0) {
+            if (chance.nextInt(great ? 4 : 2) > 0) {
                 b.append(gap()).append('*').append(gap());
                 unit(b);
             } else {
                 b.append(gap()).append('/').append(gap());
-                b.append(chance.nextInt(40) == 0 ? 0 : 1 + chance.nextInt(12));
+                b.append(chance.nextInt(40) == 0 ? NUMBERS[5 * chance.nextInt(2)] : "" + (1 + chance.nextInt(12)));
             }
         }
     }
 
     private void unit(StringBuilder b) {
         int kind = chance.nextInt(8);
-        b.append(kind == 0 ? "9999" : kind < 3 ? Integer.toString(chance.nextInt(12)) : UNITS[chance.nextInt(10)]);
+        b.append(kind == 0 || great && kind < 7 ? NUMBERS[chance.nextInt(NUMBERS.length)] : kind < 3 ? Integer.toString(chance.nextInt(12)) : UNITS[chance.nextInt(10)]);
     }
 
     private String gap() {
@@ -106,6 +110,9 @@ final class RuleTexts {
 
     private String harm(String text) {
         int at = chance.nextInt(text.length() + 1);
+        if (at < text.length() && chance.nextInt(8) == 0) {
+            return text.substring(0, at) + (char) (text.charAt(at) ^ 128) + text.substring(at + 1);
+        }
         int cut = Math.min(text.length(), at + chance.nextInt(4));
         String scrap = chance.nextInt(3) == 0 ? "" : SCRAPS[chance.nextInt(SCRAPS.length)];
         String blank = chance.nextBoolean() ? " " : "";

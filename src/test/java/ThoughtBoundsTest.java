@@ -1066,6 +1066,7 @@ public final class ThoughtBoundsTest {
             x.give(p, 1, p % 2);
             x.give(p, 2, 1 - p % 2);
             x.quarrel(0, p, true);
+            x.quarrel(p, p - 1, true);
             x.told(p, 5);
         }
         x.hours(12);
