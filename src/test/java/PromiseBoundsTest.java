@@ -511,7 +511,8 @@ public final class PromiseBoundsTest {
         x.hours(1);
         Checks.rules(x, "buy when pilgrim = 0;");
         x.hours(1);
-        int[][] want = {{11, 1, 2, 3, 35, 0, 0, 3, 0, 1}, {24, 4, 3, 9, 12, 0, 0, 18, 1, 0}, {12, 3, 1, 8, 0, 1, 0, 0, 0, 0}};
+        int[][] want = {{11, 1, 2, 3, 35, 0, 0, 3, 0, 1}, {24, 4, 3, 9, 12, 0, 0, 18, 1, 0},
+            {12, 3, 1, 8, 0, 1, 0, 0, 0, 0}};
         for (int p = 0; p < 3; p++) {
             for (int what = 0; what < 10; what++) {
                 t.due("of(" + p + ", " + what + ")", x.of(p, what), want[p][what]);

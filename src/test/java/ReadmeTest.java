@@ -12,7 +12,7 @@ import java.util.regex.Pattern;
 import java.util.stream.Stream;
 import javax.tools.ToolProvider;
 
-/** What README.md says is so: its calls answer what stands behind them, and the calls and files that it names are all. */
+/** What README.md says is so: its calls answer what stands behind them; it names all calls and files, and no others. */
 public final class ReadmeTest {
     private static final Pattern ANSWERED = Pattern.compile("(.*?); *// (-?\\d+|true|false)(\\W.*)?");
     private static final Path TESTS = Path.of("src/test/java");

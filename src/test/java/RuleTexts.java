@@ -97,7 +97,11 @@ final class RuleTexts {
 
     private void unit(StringBuilder b) {
         int kind = chance.nextInt(8);
-        b.append(kind == 0 || great && kind < 7 ? NUMBERS[chance.nextInt(NUMBERS.length)] : kind < 3 ? Integer.toString(chance.nextInt(12)) : UNITS[chance.nextInt(10)]);
+        if (kind == 0 || great && kind < 7) {
+            b.append(NUMBERS[chance.nextInt(NUMBERS.length)]);
+        } else {
+            b.append(kind < 3 ? Integer.toString(chance.nextInt(12)) : UNITS[chance.nextInt(10)]);
+        }
     }
 
     private String gap() {

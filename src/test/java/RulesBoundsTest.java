@@ -274,7 +274,8 @@ public final class RulesBoundsTest {
         t.fault("stay when (((((((( 1=1 not", 1, 23);
         t.fault("stay when (((((((( 1+not", 1, 21);
         t.fault("stay when 1/00000=1;", 1, 12);
-        String[] wrongs = {";", "+", "-", "*", "/", ")", "<", "=", ">", ".", "stay", "when", "or", "and", "burnt", "00000", ""};
+        String[] wrongs = {";", "+", "-", "*", "/", ")", "<", "=", ">", ".", "stay", "when", "or", "and", "burnt", "00000",
+            ""};
         for (String wrong : wrongs) {
             t.fault("stay when (((((((( " + wrong, 1, 19);
             t.fault("stay when not not not not not not not not " + wrong, 1, 42);
@@ -603,12 +604,13 @@ public final class RulesBoundsTest {
         t.due("sixteen lines", Checks.rules(x, "stay when 1=2;".repeat(15) + "flee when 1=1;"), 16);
         x.hours(1);
         t.due("the sixteenth", x.of(0, 0) != 12, true);
-        for (String text : new String[] {"", "stay;", "flee when 1=2;", "seek when 1=2; buy when 2<1; flee when not 1=1;"}) {
-            staysWithoutOne(text);
-        }
+        staysWithoutOne("");
+        staysWithoutOne("stay;");
+        staysWithoutOne("flee when 1=2;");
+        staysWithoutOne("seek when 1=2; buy when 2<1; flee when not 1=1;");
     }
 
-    /** PILGRIM 0 could do anything: 1, with whom he QUARRELS, stands beside him, 3 shades 10, 11 and 2, who did not burn. */
+    /** PILGRIM 0 could do anything: he QUARRELS with 1 beside him, 3 shades 11, and 2, who did not burn, at 10. */
     private static void staysWithoutOne(String text) {
         SevenToAShadow x = new SevenToAShadow();
         x.pilgrim(24, 0, 1, 1, 9);
