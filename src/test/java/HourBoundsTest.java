@@ -528,6 +528,9 @@ public final class HourBoundsTest {
         x.hours(1);
         t.due("he burns no more", x.of(0, 7), 2);
         t.due("the other does", x.of(1, 7), 2);
+        x.give(2, 1, 0);
+        t.due("nobody has a PARASOL: all three burn again", x.hours(1), 2 + 1 + 1);
+        t.due("he, too", x.of(0, 7), 4);
         SevenToAShadow y = market(2, 9, 1);
         y.give(1, 3, 9999);
         y.hours(1);
